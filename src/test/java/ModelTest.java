@@ -6,7 +6,9 @@ import java.util.TreeMap;
 // way: it goes down the tree by recursion, for one assignment of the variables at a time.
 public final class ModelTest {
     private static final int RUNS = 3000;
-    private static final int CALLS = 512;
+    // A step makes at most two calls, and nothing is promised after the 512th.
+    private static final int MOST_STEPS = 256;
+    private static final int BUILDING_STEPS = 34;
 
     private static final class Node {
         char kind;
@@ -222,15 +224,37 @@ public final class ModelTest {
         return near(0, m.nodes.isEmpty() ? 0 : m.nodes.size() - 1);
     }
 
+    // Mostly a node that may still become part of an application.
+    private static int someFreeNode(Model m) {
+        List<Integer> free = new ArrayList<>();
+        for (int n = 0; n < m.nodes.size(); n++) if (!m.nodes.get(n).taken) free.add(n);
+        return free.isEmpty() || pick(0, 9) == 0 ? someNode(m) : free.get(pick(0, free.size() - 1));
+    }
+
+    // The first steps build up something worth asking about; later ones change anything.
+    private static int kindOfChange(int step) {
+        if (step < 10) return 0;
+        if (step < 22) return 3;
+        if (step < 28) return pick(9, 12);
+        if (step < BUILDING_STEPS) return 13;
+        return pick(0, 15);
+    }
+
+    private static int lastApplication(Model m) {
+        for (int n = m.nodes.size() - 1; n >= 0; n--) if (m.nodes.get(n).kind == 'a') return n;
+        return someNode(m);
+    }
+
     private static int wrong = 0;
     private static int asked = 0;
     private static int only = 0;
+    private static int large = 0;
 
-    private static void same(int run, int call, String what, int got, int want) {
+    private static void same(int run, int step, String what, int got, int want) {
         if (got != want) {
             wrong++;
             if (wrong <= 20) {
-                System.out.println("run " + run + ", call " + call + ": " + what + " answered " + got
+                System.out.println("run " + run + ", step " + step + ": " + what + " answered " + got
                     + ", the model says " + want);
             }
         }
@@ -242,19 +266,20 @@ public final class ModelTest {
             OverloadSolver x = new OverloadSolver();
             Model m = new Model();
             int most = run % 3 == 0 ? 9 : run % 3 == 1 ? 3 : 1;
-            int calls = run % 10 == 0 ? CALLS : 90;
-            for (int call = 0; call < calls; call++) {
-                if (call < 25 || pick(0, 2) == 0) {
-                    change(run, call, x, m, most);
+            int steps = run % 10 == 0 ? MOST_STEPS : 90;
+            for (int step = 0; step < steps; step++) {
+                if (step < BUILDING_STEPS || pick(0, 2) == 0) {
+                    change(run, step, x, m, most);
                 } else {
-                    question(run, call, x, m);
+                    question(run, step, x, m);
                 }
             }
         }
-        System.out.println(asked + " questions asked, " + only + " of them with an only best solution");
-        if (only < 1000) {
+        System.out.println(asked + " questions asked, " + only + " of them about an only best solution, "
+            + large + " with 100 solutions or more");
+        if (only < 1000 || large < 1000) {
             wrong++;
-            System.out.println("too few only best solutions for the test to mean something");
+            System.out.println("too few for the test to mean something");
         }
         System.out.println(wrong == 0 ? "program and model agree" : wrong + " answers differ");
         if (wrong != 0) {
@@ -262,78 +287,79 @@ public final class ModelTest {
         }
     }
 
-    private static void change(int run, int call, OverloadSolver x, Model m, int most) {
+    private static void change(int run, int step, OverloadSolver x, Model m, int most) {
         int a = near(0, 2);
         int b = near(0, 2);
         int cost = pick(0, 24) == 0 ? pick(-3, 12) : pick(0, most);
         int types = near(0, 26);
         int set = near(1, 7);
         int v = near(0, 1);
-        int left = someNode(m);
-        int right = someNode(m);
-        switch (pick(0, 15)) {
+        int left = someFreeNode(m);
+        int right = someFreeNode(m);
+        switch (kindOfChange(step)) {
             case 0: case 1: case 2:
                 int conversion = pick(0, 5) == 0 ? -1 : cost;
-                same(run, call, "convert", x.convert(a, b, conversion), m.setConvert(a, b, conversion));
+                same(run, step, "convert", x.convert(a, b, conversion), m.setConvert(a, b, conversion));
                 break;
             case 3: case 4: case 5:
-                same(run, call, "overload", x.overload(a, types, cost), m.overload(a, types, cost));
+                same(run, step, "overload", x.overload(a, types, cost), m.overload(a, types, cost));
                 break;
             case 6:
-                if (pick(0, 3) == 0) same(run, call, "forget", x.forget(a), m.forget(a));
+                if (pick(0, 3) == 0) same(run, step, "forget", x.forget(a), m.forget(a));
                 break;
             case 7:
-                same(run, call, "declare", x.declare(v, set), m.declare(v, set));
+                same(run, step, "declare", x.declare(v, set), m.declare(v, set));
                 break;
             case 8:
-                same(run, call, "literalCost", x.literalCost(a, cost), m.setLiteralCost(a, cost));
+                same(run, step, "literalCost", x.literalCost(a, cost), m.setLiteralCost(a, cost));
                 break;
             case 9: case 10:
-                same(run, call, "literal", x.literal(set), m.leaf('l', set, 1, 7));
+                same(run, step, "literal", x.literal(set), m.leaf('l', set, 1, 7));
                 break;
             case 11:
-                same(run, call, "use", x.use(v), m.leaf('u', v, 0, 1));
+                same(run, step, "use", x.use(v), m.leaf('u', v, 0, 1));
                 break;
             case 12:
-                same(run, call, "constant", x.constant(a), m.leaf('c', a, 0, 2));
+                same(run, step, "constant", x.constant(a), m.leaf('c', a, 0, 2));
                 break;
             case 13: case 14:
-                same(run, call, "apply", x.apply(a, left, right), m.apply(a, left, right));
+                same(run, step, "apply", x.apply(a, left, right), m.apply(a, left, right));
                 break;
             default:
-                if (pick(0, 5) == 0) same(run, call, "clear", x.clear(), m.clear());
+                if (pick(0, 9) == 0) same(run, step, "clear", x.clear(), m.clear());
                 break;
         }
-        same(run, call, "nodes", x.nodes(), m.nodes.size());
+        same(run, step, "nodes", x.nodes(), m.nodes.size());
     }
 
-    private static void question(int run, int call, OverloadSolver x, Model m) {
-        int node = pick(0, 1) == 0 ? m.nodes.size() - 1 : someNode(m);
+    private static void question(int run, int step, OverloadSolver x, Model m) {
+        int node = pick(0, 2) > 0 ? lastApplication(m) : someNode(m);
         int wanted = near(0, 3);
         int part = someNode(m);
         int least = m.ask('l', node, wanted, 0);
         int cost = pick(0, 9) == 0 ? pick(-4, 130) : least + pick(0, 5);
         asked++;
+        if (m.ask('s', node, wanted, 0) >= 100) large++;
         switch (pick(0, 5)) {
             case 0:
-                same(run, call, "solutions", x.solutions(node, wanted), m.ask('s', node, wanted, 0));
+                same(run, step, "solutions", x.solutions(node, wanted), m.ask('s', node, wanted, 0));
                 break;
             case 1:
-                same(run, call, "leastCost", x.leastCost(node, wanted), least);
+                same(run, step, "leastCost", x.leastCost(node, wanted), least);
                 break;
             case 2:
-                same(run, call, "bestCount", x.bestCount(node, wanted), m.ask('b', node, wanted, 0));
+                same(run, step, "bestCount", x.bestCount(node, wanted), m.ask('b', node, wanted, 0));
                 break;
             case 3:
-                same(run, call, "withCost", x.withCost(node, wanted, cost), m.ask('w', node, wanted, cost));
+                same(run, step, "withCost", x.withCost(node, wanted, cost), m.ask('w', node, wanted, cost));
                 break;
             case 4:
                 int chosen = m.ask('c', node, wanted, part);
                 if (chosen >= 0) only++;
-                same(run, call, "chosen", x.chosen(node, wanted, part), chosen);
+                same(run, step, "chosen", x.chosen(node, wanted, part), chosen);
                 break;
             default:
-                same(run, call, "typeOf", x.typeOf(node, wanted), m.ask('t', node, wanted, 0));
+                same(run, step, "typeOf", x.typeOf(node, wanted), m.ask('t', node, wanted, 0));
                 break;
         }
     }
