@@ -6,6 +6,8 @@ import java.lang.reflect.Modifier;
 import java.nio.file.Files;
 import java.nio.file.Path;
 import java.util.Arrays;
+import java.util.HashMap;
+import java.util.Map;
 import java.util.Set;
 import java.util.TreeSet;
 import java.util.regex.Matcher;
@@ -45,6 +47,7 @@ public final class RulesTest {
         checkConstructors(type);
         checkFields(type);
         checkText();
+        checkCalls(type);
         System.out.println(wrong == 0 ? "the rules hold" : wrong + " rules are broken");
         if (wrong != 0) {
             System.exit(1);
@@ -97,9 +100,13 @@ public final class RulesTest {
         hold(count <= 40, "at most forty fields, not " + count);
     }
 
-    private static void checkText() throws IOException {
+    private static String codeWithoutComments() throws IOException {
         String text = Files.readString(SOURCE);
-        String code = text.replaceAll("(?s)/\\*.*?\\*/", "").replaceAll("//[^\\n]*", "");
+        return text.replaceAll("(?s)/\\*.*?\\*/", "").replaceAll("//[^\\n]*", "");
+    }
+
+    private static void checkText() throws IOException {
+        String code = codeWithoutComments();
         Matcher banned = BANNED.matcher(code);
         while (banned.find()) {
             hold(false, "not in the language: " + banned.group());
@@ -114,5 +121,42 @@ public final class RulesTest {
         while (nested.find()) {
             hold(false, "no call inside the arguments of a call: " + nested.group());
         }
+    }
+
+    // A method's text ends where a closing brace stands as far left as the method itself.
+    private static Map<String, String> bodies() throws IOException {
+        Map<String, String> bodies = new HashMap<>();
+        Matcher method = Pattern.compile("(?ms)^    (?:public|private)[^=;{]*?(\\w+)\\([^)]*\\) \\{\\n(.*?)^    \\}$")
+            .matcher(codeWithoutComments());
+        while (method.find()) {
+            bodies.put(method.group(1), method.group(2));
+        }
+        return bodies;
+    }
+
+    private static void checkCalls(Class<?> type) throws IOException {
+        Map<String, String> bodies = bodies();
+        for (Method method : type.getDeclaredMethods()) {
+            hold(bodies.containsKey(method.getName()), "the text of " + method.getName() + " was found");
+        }
+        for (String name : bodies.keySet()) {
+            hold(bodies.get(name).lines().count() <= 60, "some sixty lines: " + name);
+            hold(depth(name, bodies, 1) <= 6, "at most six calls deep and no recursion: " + name);
+        }
+    }
+
+    // Looks no further than one call too deep, so that it ends even for methods that call each other.
+    private static int depth(String name, Map<String, String> bodies, int above) {
+        int deepest = 1;
+        if (above > 6) {
+            return deepest;
+        }
+        Matcher call = Pattern.compile("\\b(\\w+)\\(").matcher(bodies.get(name));
+        while (call.find()) {
+            if (bodies.containsKey(call.group(1))) {
+                deepest = Math.max(deepest, 1 + depth(call.group(1), bodies, above + 1));
+            }
+        }
+        return deepest;
     }
 }
